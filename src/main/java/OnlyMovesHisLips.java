@@ -1132,8 +1132,9 @@ public final class OnlyMovesHisLips {
             // a set that leaves fewer than all of them at worst is one by which both parts have any
             int least = some;
             int found = NONE;
-            int all = choir.all();
-            for (int set = 1; set <= all; set++) {
+            // most ends of BY NEXT are single WORLDS, by which no set need be tried
+            int last = some < 2 ? 0 : choir.all();
+            for (int set = 1; set <= last; set++) {
                 if (allows(set)) {
                     int wrong = worlds.wrongAmong(set, someLow, someHigh);
                     int worst = Math.max(wrong, some - wrong);

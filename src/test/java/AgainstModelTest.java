@@ -183,9 +183,9 @@ public final class AgainstModelTest {
                 break;
             default:
                 int q = about(8);
-                int i = about(8);
-                int j = about(8);
-                int n = about(6);
+                int i = less(2) == 0 ? 0 : about(8);
+                int j = less(2) == 0 ? 0 : about(8);
+                int n = about(7);
                 is("copy(" + s + ", " + q + ", " + i + ", " + j + ", " + n + ")", x.copy(s, q, i, j, n), m.copy(s, q, i, j, n));
                 break;
         }

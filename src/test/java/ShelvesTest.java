@@ -108,6 +108,10 @@ public final class ShelvesTest {
         DUE.is("first", x.element(1, 0), 3);
         DUE.is("second", x.element(1, 1), 4);
         DUE.is("third", x.element(1, 2), 9);
+        DUE.is("all of it", x.copy(0, 0, 0, 0, 4), 1);
+        DUE.is("up to the ends", x.copy(0, 1, 1, 0, 3), 1);
+        DUE.is("the last", x.element(1, 2), 4);
+        DUE.is("back", x.set(1, 2, 9), 1);
         DUE.is("none, at the ends", x.copy(0, 1, 4, 3, 0), 1);
         DUE.is("-1 of p", x.copy(8, 3, 0, 0, -1), -1);
         DUE.is("-1 of q", x.copy(3, -1, 0, 0, -1), -1);
@@ -125,7 +129,7 @@ public final class ShelvesTest {
         DUE.is("-5, none behind the end", x.copy(0, 1, 5, 0, 0), -5);
         DUE.is("-5, far away", x.copy(0, 1, Integer.MAX_VALUE, 0, 1), -5);
         DUE.is("-5, many", x.copy(0, 1, 1, 1, Integer.MAX_VALUE), -5);
-        DUE.is("unchanged", x.element(1, 1), 4);
+        DUE.is("unchanged", x.element(1, 1), 3);
     }
 
     private static void copyOverItself() {

@@ -146,6 +146,14 @@ public final class WholeTest {
         DUE.is("says", x.says(0, 0), 0);
         DUE.is("NOTHING", x.says(2, 0), -3);
         DUE.is("ROWS stay", x.element(3, 0), 5);
+        x.singer(0, 0, 1);
+        for (int s = 0; s < 8; s++) {
+            x.show(s, 2);
+        }
+        DUE.is("restore()", x.restore(), 2);
+        for (int s = 0; s < 8; s++) {
+            DUE.is("then holds(" + s + ")", x.holds(s), -1);
+        }
     }
 
     private static void imageLeavesOut() {
