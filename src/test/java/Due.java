@@ -3,6 +3,8 @@ import java.util.function.BooleanSupplier;
 /** Counts the answers that are not as due, and says so at the end. */
 final class Due {
     private final String name;
+    private String words = "";
+    private int sentences = 0;
     private int asked = 0;
     private int wrong = 0;
 
@@ -10,11 +12,17 @@ final class Due {
         this.name = name;
     }
 
+    /** The words of the document that the answers asked from here on are held against. */
+    void sentence(String said) {
+        sentences++;
+        words = " (" + said + ")";
+    }
+
     void is(String call, long got, long want) {
         asked++;
         if (got != want) {
             wrong++;
-            System.out.println(name + ": " + call + " answered " + got + ", due is " + want);
+            System.out.println(name + words + ": " + call + " answered " + got + ", due is " + want);
         }
     }
 
@@ -22,12 +30,21 @@ final class Due {
         is(what, test.getAsBoolean() ? 1 : 0, 1);
     }
 
+    void same(String what, String got, String want) {
+        asked++;
+        if (!got.equals(want)) {
+            wrong++;
+            System.out.println(name + words + ": " + what + "\n  is  " + got + "\n  due " + want);
+        }
+    }
+
     boolean hasWrong() {
         return wrong != 0;
     }
 
     void end() {
-        System.out.println(name + ": " + asked + " answers, " + wrong + " not as due");
+        String of = sentences == 0 ? "" : sentences + " sentences, ";
+        System.out.println(name + ": " + of + asked + " answers, " + wrong + " not as due");
         if (wrong != 0) {
             System.exit(1);
         }
