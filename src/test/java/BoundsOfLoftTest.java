@@ -26,6 +26,7 @@ public final class BoundsOfLoftTest {
         worldsInOrder();
         ninetyTwoWorlds();
         worldAtTheEnds();
+        worldsAsSingersCome();
         weightsAtTheEnds();
         soundsOfAllAndOfOne();
         sixteenHearings();
@@ -34,6 +35,8 @@ public final class BoundsOfLoftTest {
         notASecondTime();
         bothSoundsOfASet();
         knownAtTheEnds();
+        noOtherSounds();
+        heardOfTheSets();
         forgetAll();
         nonePossible();
         DUE.end();
@@ -324,6 +327,31 @@ public final class BoundsOfLoftTest {
         DUE.is("world(MIN)", x.world(MIN), -5);
     }
 
+    private static void worldsAsSingersCome() {
+        DUE.sentence("WORLDS: as SINGERS come and MOST changes: those there were ahead count no more");
+        OnlyMovesHisLips x = new OnlyMovesHisLips();
+        x.ask(0, 3);
+        for (int n = 1; n <= 8; n++) {
+            x.singer(0, 0, 1);
+            int last = 1 << n - 1;
+            int sum = 0;
+            for (int world = 1; world < 1 << n; world++) {
+                if (Integer.bitCount(world) <= 2 && n < 6) {
+                    sum += x.sounds(1, world) == (world & 1) && x.sounds(last, world) == world >> n - 1 ? 0 : 1;
+                }
+            }
+            DUE.is("of " + n + ": sound otherwise", sum, 0);
+            DUE.is("of " + n + ": by the first", x.parts(1, 0), 1 + n - 1 + (n - 1) * (n - 2) / 2);
+            DUE.is("of " + n + ": by the last", x.parts(last, 0), 1 + n - 1 + (n - 1) * (n - 2) / 2);
+        }
+        x.ask(0, 2);
+        DUE.is("MOST 2: by the last", x.parts(128, 0), 8);
+        x.ask(0, 1);
+        DUE.is("MOST 1: by the last", x.parts(128, 0), 1);
+        x.ask(0, 3);
+        DUE.is("MOST 3: by the last", x.parts(128, 0), 29);
+    }
+
     private static void weightsAtTheEnds() {
         DUE.sentence("WEIGHT of a WORLD: the product of the ODDS of all in it");
         OnlyMovesHisLips x = new OnlyMovesHisLips();
@@ -440,6 +468,31 @@ public final class BoundsOfLoftTest {
         x = Scenes.sixteen();
         DUE.is("known(15) of 16", x.known(15), 32);
         DUE.is("known(16) of 16", x.known(16), -5);
+    }
+
+    private static void noOtherSounds() {
+        DUE.sentence("heard: -6 .. a sound not 0, 1");
+        OnlyMovesHisLips x = Due.choir(0, 0);
+        for (int sound : new int[] {-1, 2, 3, MIN, MAX}) {
+            DUE.is("heard(1, " + sound + ")", x.heard(1, sound), -6);
+        }
+        DUE.is("none is KNOWN", x.known(-1), 0);
+        DUE.is("heard(1, 0)", x.heard(1, 0), 1);
+        x.forget();
+        DUE.is("heard(1, 1)", x.heard(1, 1), 1);
+    }
+
+    private static void heardOfTheSets() {
+        DUE.sentence("heard: -6 an empty set, others than there are");
+        OnlyMovesHisLips x = Due.choir(0, 0, 0);
+        DUE.is("nobody", x.heard(0, 0), -6);
+        DUE.is("the first", x.heard(1, 0), 2);
+        DUE.is("all", x.heard(7, 1), 2);
+        DUE.is("others", x.heard(8, 0), -6);
+        DUE.is("others too", x.heard(15, 1), -6);
+        DUE.is("below", x.heard(-1, 1), -6);
+        DUE.is("MIN", x.heard(MIN, 0), -6);
+        DUE.is("two are KNOWN", x.known(-1), 2);
     }
 
     private static void forgetAll() {

@@ -43,6 +43,10 @@ public final class BoundsOfSayingsTest {
         byEarWithoutErring();
         byEarOf50();
         byEarIsCutEachTime();
+        byEarToAHundredth();
+        byAnew();
+        ninetyTwoByWhatIsKnown();
+        ninetyTwoTold();
         byEarOf32();
         byEarWhateverIsKnown();
         byEarOfTies();
@@ -81,6 +85,11 @@ public final class BoundsOfSayingsTest {
         x.heard(2, 0);
         DUE.is("MAY of one", x.may(0), 5);
         DUE.is("SURE of one", x.may(1), 5);
+        x = Due.choir(0, 0);
+        x.ask(0, 2);
+        x.heard(1, 1);
+        DUE.is("SURE of the first and the last", x.may(1), 1);
+        DUE.is("MAY of the first and the last", x.may(0), 3);
     }
 
     private static void mayAndSureOfAll() {
@@ -563,6 +572,88 @@ public final class BoundsOfSayingsTest {
         ear(x, 2, 1, 1, 1, 0, 1, 0, 1, 1);
         // 291 both
         ear(x, 1, 1, 1, 1, 0);
+    }
+
+    private static OnlyMovesHisLips ear(int ear, int... odds) {
+        OnlyMovesHisLips x = odds(odds);
+        x.ask(3, ear);
+        return x;
+    }
+
+    private static void byEarToAHundredth() {
+        DUE.sentence("BY EAR: 10,000 times its WEIGHT; .. times 100 less EAR, if it sounds so, else times EAR, by 100");
+        // 13200, 13400
+        ear(ear(33, 4, 2), 2, 2, 1);
+        // 27900, 20700, 27600
+        ear(ear(31, 9, 3, 4), 1, 6, 1);
+        // 12900, 5700, 17100, then 7353, 3249, 7353
+        ear(ear(43, 3, 1, 3), 1, 6, 1, 4, 0);
+        // 15400, 54600, 15400, then 12012, 12012, 3388
+        ear(ear(22, 7, 7, 7), 1, 5, 0, 6, 0);
+        // 4400, 7700, 62300, then 484, 6853, 6853
+        ear(ear(11, 4, 7, 7), 2, 3, 0, 2, 1);
+        // 4600, 15400, then 3542 both
+        ear(ear(23, 2, 2), 1, 1, 0, 1, 1);
+    }
+
+    private static void byAnew() {
+        DUE.sentence("BY NEXT: what was WORST, the MEAN and LEFT by more WORLDS is nothing to fewer");
+        OnlyMovesHisLips x = Due.choir(0, 0, 4, 4, 4);
+        by(x, 2, 1400, 3);
+        x.heard(3, 1);
+        by(x, 1, 1000, 1);
+        x.heard(1, 1);
+        by(x, 0, 0, 1);
+        x.forget();
+        by(x, 2, 1400, 3);
+    }
+
+    private static OnlyMovesHisLips ninetyTwo() {
+        OnlyMovesHisLips x = Scenes.full();
+        x.ask(0, 3);
+        return x;
+    }
+
+    private static void ninetyTwoByWhatIsKnown() {
+        DUE.sentence("POSSIBLE: of 92 WORLDS, the last ones too");
+        OnlyMovesHisLips x = ninetyTwo();
+        DUE.is("5 is wrong", x.heard(32, 1), 1 + 7 + 21);
+        DUE.is("7 too", x.heard(128, 1), 1 + 6);
+        DUE.is("the first", x.world(0), 160);
+        DUE.is("the last", x.world(6), 224);
+        DUE.is("MAY", x.may(0), 255);
+        DUE.is("SURE", x.may(1), 160);
+        DUE.is("LIKELY", x.singerOf(6, 4), 142);
+        DUE.is("PARTS", x.parts(64, 0), 1);
+        DUE.is("LIKELIEST", x.likeliest(), 160);
+        DUE.is("NEXT", x.next(), 7);
+        DUE.is("6 isn't", x.heard(64, 0), 6);
+        DUE.is("nor 4", x.heard(16, 0), 5);
+        DUE.is("one of 0 to 3", x.heard(15, 1), 4);
+        DUE.is("neither 0 nor 1", x.heard(3, 0), 2);
+        DUE.is("3", x.heard(8, 1), 1);
+        DUE.is("the one", x.likeliest(), 168);
+        DUE.is("no other", x.heard(4, 1), -6);
+    }
+
+    private static void ninetyTwoTold() {
+        DUE.sentence("a told evening, by 92 WORLDS, the last ones too");
+        OnlyMovesHisLips x = ninetyTwo();
+        judge(x, -1, 128, 1, 64, 1, 32, 1, 31, 0);
+        DUE.is("behind all", x.behind(0, 8), 1);
+        DUE.is("behind three", x.behind(0, 6), 1);
+        DUE.is("behind two", x.behind(0, 4), 7);
+        DUE.is("behind one", x.behind(0, 2), 29);
+        judge(x, 7, 128, 1, 64, 1, 32, 1, 31, 1);
+        judge(x, 5, 128, 1, 127, 0, 64, 1);
+        x.heard(32, 1);
+        judge(x, -1, 128, 1, 64, 1);
+        DUE.is("behind, by what is KNOWN", x.behind(0, 4), 1);
+        judge(x, 5, 128, 1, 64, 1, 16, 1);
+        x.heard(31, 0);
+        Due.row(x, 0, 128, 64);
+        DUE.is("ahead by what is KNOWN", x.ahead(0, 2, 0), 4);
+        ear(x, 224, 128, 1, 64, 1, 32, 1);
     }
 
     private static void byEarOf32() {

@@ -9,6 +9,7 @@ public final class BoundsOfSoundsTest {
         leanerBesideTheEnd();
         leanerBehindOneWhoIsWrong();
         leanerBehindOneWhoDoesNotSing();
+        leanersOfEight();
         leanerWithAGap();
         proudAtBothEnds();
         proudWithOneWhoIsRight();
@@ -99,6 +100,21 @@ public final class BoundsOfSoundsTest {
         sounds(x, 2, 2, 1);
         sounds(x, 6, 2, 1);
         sounds(x, 7, 2, 0);
+    }
+
+    private static void leanersOfEight() {
+        DUE.sentence("LEANER: in the last of 92 WORLDS");
+        OnlyMovesHisLips x = three(1, 1, 1, 1, 1, 1, 1, 1);
+        // 7 leans on 6; 6 on 5, who doesn't sing
+        sounds(x, 192, 128 + 16 + 4, 0);
+        sounds(x, 192, 128 + 32 + 16, 0);
+        sounds(x, 192, 224, 1);
+        sounds(x, 128 + 32, 128 + 16 + 4, 1);
+        // 0 stands first, 1 leans on 0
+        sounds(x, 255, 128 + 32 + 8, 0);
+        sounds(x, 255, 128 + 32 + 1, 1);
+        sounds(x, 254, 128 + 32 + 1, 0);
+        sounds(x, 255, 224, 1);
     }
 
     private static void leanerWithAGap() {

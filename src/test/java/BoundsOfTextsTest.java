@@ -28,6 +28,8 @@ public final class BoundsOfTextsTest {
         lettersAreSmall();
         elementsThatAreNoLetters();
         allOrNothing();
+        nothingBehindWhatStood();
+        allElseIsToldOver();
         whatATextForgets();
         whatATextLeaves();
         theLatestFault();
@@ -226,6 +228,8 @@ public final class BoundsOfTextsTest {
         fault(x, "heard 8 1", 6);
         fault(x, "heard 7 2", 8);
         fault(x, "heard 7 9", 8);
+        fault(x, "heard 1 2", 8);
+        fault(x, "heard 1 10", 8);
         fault(x, "heard 8 2", 6);
         stands(x, "heard 7 1", 1);
         stands(x, "heard 1 0", 1);
@@ -439,6 +443,55 @@ public final class BoundsOfTextsTest {
         }
         DUE.is("PLACE then", x.singerOf(0, 3), 2);
         DUE.is("KNOWN then", x.known(0), 15);
+    }
+
+    private static void nothingBehindWhatStood() {
+        DUE.sentence("All is told over what there is, or nothing: behind a text that stood");
+        OnlyMovesHisLips x = Due.choir(0, 0);
+        stands(x, "most 2;ear 7;heard 3 1", 3);
+        fault(x, "singer 0 0 1;ear 8;most 1;swap 0 1;?", 35);
+        int[] status = {2, 2, 1, 0, 7, 1, 1, 1};
+        for (int what = 0; what < status.length; what++) {
+            DUE.is("status(" + what + ")", x.status(what), status[what]);
+        }
+        DUE.is("PLACE", x.singerOf(0, 3), 0);
+        stands(x, "least 2", 1);
+        fault(x, "least 1;?", 8);
+        DUE.is("LEAST", x.status(2), 2);
+        DUE.is("KNOWN", x.known(0), 7);
+    }
+
+    private static void allElseIsToldOver() {
+        DUE.sentence("All is told over what there is: what a text doesn't tell of is as it was");
+        OnlyMovesHisLips x = new OnlyMovesHisLips();
+        for (int i = 0; i < 8; i++) {
+            x.singer(1, 0, 1 + i % 2);
+        }
+        x.show(0, 7);
+        x.show(1, 1);
+        x.show(2, 0);
+        x.swap(0, 7);
+        x.ask(0, 3);
+        x.isTrue(224);
+        x.hear(128);
+        x.seed(5);
+        stands(x, "ear 3", 1);
+        DUE.is("who is first in the row", x.says(0, 1), -1);
+        DUE.is("who is ahead of 1", x.says(1, 1), 7);
+        DUE.is("who is ahead of 0", x.says(2, 1), 6);
+        // the row: 7 1 2 3 4 5 6 0
+        DUE.is("7 is first", x.sounds(192, 224), 1);
+        DUE.is("0 leans on 6", x.sounds(65, 1), 0);
+        DUE.is("3 leans on 2", x.sounds(12, 8), 0);
+        DUE.is("3 leans on 2, who is wrong", x.sounds(12, 14), 1);
+        DUE.is("3 leans on 2, who is right", x.sounds(12, 200), 0);
+        DUE.is("TRUE", x.status(6), 224);
+        DUE.is("SEED", x.status(7), 5);
+        DUE.is("POSSIBLE", x.worlds(1), 29);
+        DUE.is("the last", x.world(28), 224);
+        DUE.is("PARTS", x.parts(128, 0), 29);
+        // the first of the WEIGHT 8 with 7: 2 * 2 * 2
+        DUE.is("LIKELIEST", x.likeliest(), 138);
     }
 
     private static void whatATextForgets() {

@@ -24,6 +24,7 @@ public final class BoundsOfWholeTest {
         noImage();
         restoreTwice();
         restoreBringsBackAll();
+        restoreBringsBackPlacesOfEight();
         restoreLeavesOut();
         shelvesAtTheEdgeOfTheImage();
         shelvesWithoutSingers();
@@ -334,6 +335,46 @@ public final class BoundsOfWholeTest {
         x.evenings(3);
         x.restore();
         DUE.same("as before", seen(x), before);
+    }
+
+    private static void restoreBringsBackPlacesOfEight() {
+        DUE.sentence("restore: All is as THE IMAGE has it: who stands beside whom, and 92 WORLDS");
+        OnlyMovesHisLips x = new OnlyMovesHisLips();
+        for (int i = 0; i < 8; i++) {
+            x.singer(3, 0, 1 + i % 2);
+            x.show(i, i);
+        }
+        x.ask(0, 3);
+        x.swap(0, 7);
+        x.swap(3, 6);
+        x.isTrue(224);
+        x.hear(128);
+        x.image();
+        x.swap(1, 5);
+        x.swap(0, 4);
+        x.ask(0, 1);
+        x.heard(1, 0);
+        x.sounds(2, 1);
+        x.restore();
+        // the row: 7 1 2 6 4 5 3 0
+        int[] row = {7, 1, 2, 6, 4, 5, 3, 0};
+        for (int place = 0; place < 8; place++) {
+            DUE.is("PLACE of " + row[place], x.says(row[place], 0), place);
+            DUE.is("who is ahead of " + row[place], x.says(row[place], 1), place == 0 ? -1 : row[place - 1]);
+        }
+        DUE.is("WORLDS", x.worlds(0), 92);
+        DUE.is("POSSIBLE", x.worlds(1), 29);
+        DUE.is("the last", x.world(28), 224);
+        DUE.is("TRUE", x.status(6), 224);
+        DUE.is("PARTS", x.parts(128, 0), 29);
+        DUE.is("6 beside 4", x.sounds(64 + 16, 64), 0);
+        DUE.is("6 beside nobody", x.sounds(64 + 32, 64), 1);
+        DUE.is("3 beside 5, who is wrong", x.sounds(32 + 8, 32 + 8 + 128), 1);
+        DUE.is("3 beside 5, who is right", x.sounds(32 + 8, 8 + 64 + 128), 0);
+        DUE.is("0 beside 3", x.sounds(8 + 1, 1), 0);
+        // the first of the WEIGHT 8 with 7: 2 * 2 * 2
+        DUE.is("LIKELIEST", x.likeliest(), 138);
+        DUE.is("HEARINGS go on", x.heard(32, 1), 7);
     }
 
     private static String seen(OnlyMovesHisLips x) {

@@ -253,7 +253,8 @@ public final class RefusalsTest {
 
     private static void heard() {
         DUE.sentence("heard: -6 an empty set, others than there are, a sound not 0, 1, what no POSSIBLE one sounds like; -7");
-        int[][] wrong = {{0, 1}, {8, 1}, {-1, 1}, {9, 1}, {7, 2}, {7, -1}, {7, MAX}, {0, 2}, {7, 0}, {3, 0}};
+        int[][] wrong = {{0, 1}, {8, 1}, {-1, 1}, {9, 1}, {7, 2}, {7, -1}, {7, MAX}, {0, 2}, {7, 0}, {3, 0},
+            {1, 2}, {1, -1}, {1, 3}, {1, MIN}};
         for (int[] w : wrong) {
             busy("heard(" + w[0] + ", " + w[1] + ")", -6, x -> x.heard(w[0], w[1]));
         }
